@@ -203,6 +203,11 @@ public final class PromiseTest {
         y.layer(20, 0);
         y.even(100, 2, 10, 2, 3);
         Check.same("7: whole tonnes", y.job(0, 3), 120);
+        BlackRoad w = new BlackRoad();
+        w.section(483, 0);
+        w.layer(192, 0);
+        w.even(113, 2, 10, 2, 3);
+        Check.same("7: 2515 and 32 / 100000", w.job(0, 3), 2516);
         BlackRoad z = new BlackRoad();
         z.section(10, 0);
         z.layer(20, 0);
@@ -398,8 +403,10 @@ public final class PromiseTest {
         Check.hours(x, "world 0; rain 0 to 9; world 1;");
         String[] texts = {"x;", ";", "7", "Open 0 to 1;", "opens 0 to 1;", "open 0 1;", "open 0 to to 1;", "open 0 to 1",
             "open 0 to 1 ", "open", "open ;", "haul 0 1 0;", "haul 0 1 to 0;", "shut 0 0 from 1;", "open 0 to 1;;",
-            "open 0 to 1;?", "open 0 to 1;\t", "open 0, to 1;", "world ;", "rain 0 to 1; \u00e9"};
-        int[] places = {0, 0, 0, 0, 0, 7, 10, 11, 12, 4, 5, 9, 9, 9, 12, 12, 12, 6, 6, 13};
+            "open 0 to 1;?", "open 0 to 1;\t", "open 0, to 1;", "world ;", "rain 0 to 1; \u00e9", "openz 0 to 1;",
+            "opena 0 to 1;", "openA 0 to 1;", "openZ 0 to 1;", "open{0 to 1;", "open`0 to 1;", "open@0 to 1;",
+            "open[0 to 1;", "open/0 to 1;", "open:0 to 1;"};
+        int[] places = {0, 0, 0, 0, 0, 7, 10, 11, 12, 4, 5, 9, 9, 9, 12, 12, 12, 6, 6, 13, 0, 0, 0, 0, 4, 4, 4, 4, 4, 4};
         for (int i = 0; i < texts.length; i++) Check.badHours(x, texts[i], 1, places[i]);
         String[] numbers = {"haul 3 1 from 0;", "haul 0 0 from 0;", "haul 0 121 from 0;", "haul 0 1 from 4320;",
             "shut 3 0 to 0;", "shut 0 4320 to 4320;", "shut 0 9 to 8;", "shut 0 9 to 4320;", "open 4320 to 4320;",
@@ -726,29 +733,51 @@ public final class PromiseTest {
         Check.same("21: its end", y.run(1, 4, 1), 23);
     }
 
-    /** What run() answers tells which pace is due; the drawn worlds pull in more than one way. */
+    /** Runs in which the worst world, all stops together, or the latest END tells between two paces. */
     private static void worstWorld() {
-        BlackRoad x = small(2, 50, 2);
+        ranked(0, 3, 141, 2, "world 0; haul 0 8 from 0; open 27 to 4000; world 1; haul 0 6 from 0; shut 0 2 to 13;", 31);
+        ranked(0, 3, 139, 2, "world 0; haul 0 5 from 0; open 26 to 4000; world 1; haul 0 5 from 0; shut 0 2 to 16;", 56);
+        ranked(1, 1, 145, 4, "world 0; haul 0 6 from 0; open 15 to 4000; world 1; haul 0 5 from 1; shut 0 7 to 19;", 96);
+        ranked(1, 2, 152, 4, "world 0; haul 0 3 from 0; open 19 to 4000; world 1; haul 0 7 from 3; shut 0 6 to 14;", 73);
+        ranked(2, 5, 146, 4, "world 0; haul 0 8 from 0; open 24 to 4000; world 1; haul 0 9 from 4; shut 0 3 to 20;", 23, 29);
+        ranked(2, 4, 152, 4, "world 0; haul 0 5 from 0; open 11 to 4000; world 1; haul 0 3 from 3; shut 0 4 to 18;", 45);
+        // twenty tonnes lie ready as the road opens
+        BlackRoad x = small(5, 10, 5);
+        Check.hours(x, "haul 0 1 from 0; open 50 to 4000;");
+        Check.same("21: the fastest", x.pace(), 20);
+    }
+
+    /** By all three the pace is the one due; without the one named it would be another. */
+    private static void ranked(int by, int due, int refuse, int trucks, String hours, int... lengths) {
+        BlackRoad x = new BlackRoad();
+        for (int length : lengths) x.section(length, 0);
         x.layer(20, 0);
-        Check.hours(x, "haul 0 2 from 0; world 0; rain 9 to 30; world 1; shut 0 20 to 60; world 2; haul 0 40 from 9;");
-        int due = -1;
-        long least = Long.MAX_VALUE;
+        x.plant(0, 10, 200, 1);
+        x.trucks(trucks, 5);
+        x.heat(160, 1, refuse, 80, 70);
+        Check.hours(x, hours);
+        Check.same("21: ranked " + hours, x.pace(), due);
+        Check.same("21: by all " + hours, first(x, -1), due);
+        Check.yes("21: it tells " + hours, first(x, by) != due);
+    }
+
+    private static int first(BlackRoad x, int without) {
+        int best = -1;
+        long[] least = null;
         for (int pace = 1; pace <= 20; pace++) {
-            long worst = 0;
-            long all = 0;
-            long latest = 0;
-            for (int world = 0; world < 3; world++) {
-                worst = Math.max(worst, x.run(world, pace, 0));
-                all += x.run(world, pace, 0);
-                latest = Math.max(latest, x.run(world, pace, 1));
+            long[] mine = new long[3];
+            for (int world = 0; world < 2; world++) {
+                mine[0] = Math.max(mine[0], x.run(world, pace, 0));
+                mine[1] += x.run(world, pace, 0);
+                mine[2] = Math.max(mine[2], x.run(world, pace, 1));
             }
-            long rank = worst * 100000000L + all * 10000L + latest;
-            if (rank < least) {
-                least = rank;
-                due = pace;
+            if (without >= 0) mine[without] = 0;
+            if (least == null || java.util.Arrays.compare(mine, least) < 0) {
+                least = mine;
+                best = pace;
             }
         }
-        Check.same("21: by the worst world", x.pace(), due);
+        return best;
     }
 
     private static void fewest() {
@@ -768,6 +797,16 @@ public final class PromiseTest {
         Check.hours(x, "haul 0 1 from 0;");
         Check.same("22: by what they carry", x.fewest(20), 1);
         Check.same("22: trucks stay five", x.about(3), 5);
+        // sixteen loads of five, twenty minutes each way: none comes twice in time
+        BlackRoad y = new BlackRoad();
+        y.section(238, 0);
+        y.layer(20, 0);
+        y.plant(0, 10, 200, 1);
+        y.trucks(1, 5);
+        Check.same("22: eighty tonnes", y.about(9), 80);
+        Check.same("22: all sixteen", y.fewest(5), 16);
+        y.section(10, 0);
+        Check.same("22: a seventeenth load", y.fewest(5), -1);
     }
 
     private static void loads() {
@@ -835,6 +874,24 @@ public final class PromiseTest {
     }
 
     private static void joints() {
+        // JOIN is 70 at first: laid at 3 with 160, MEAN comes to 70 at some minute and is less at a later one
+        BlackRoad w = small(2, 10, 2);
+        int seventy = 0;
+        while (seventy < 600 && w.mean(0, 4, 0, seventy + 1) >= 70) seventy++;
+        Check.same("26: seventy", w.mean(0, 4, 0, seventy), 70);
+        Check.yes("26: less", w.mean(0, 4, 0, seventy + 1) < 70);
+        w.heat(160, 20, 0, 80, 70);
+        Check.hours(w, "haul 0 1 from 0; open 3 to 3; open " + (3 + seventy) + " to 4319;");
+        Check.same("25: not below 70", w.laid(0, 4, 1, 3), 0);
+        Check.hours(w, "haul 0 1 from 0; open 3 to 3; open " + (4 + seventy) + " to 4319;");
+        Check.same("25: below 70", w.laid(0, 4, 1, 3), 1);
+        // the second load is filled late, so that it may be taken
+        BlackRoad v = small(2, 10, 2);
+        int kept = 3 + seventy;
+        Check.hours(v, "haul 0 1 from 0; shut 0 2 to " + (kept - 3) + "; open 3 to 3; open " + kept + " to 4319;");
+        Check.same("25: 70 at first", v.laid(0, 4, 1, 3), 0);
+        Check.hours(v, "haul 0 1 from 0; shut 0 2 to " + (kept - 2) + "; open 3 to 3; open " + (kept + 1) + " to 4319;");
+        Check.same("25: below 70 at first", v.laid(0, 4, 1, 3), 1);
         // job 0 is laid at 3 with 160, job 1 begins at 4 : 157 then
         BlackRoad x = small(2, 10, 2);
         x.layer(20, 0);
@@ -901,6 +958,7 @@ public final class PromiseTest {
         Check.same("25: none of sort 0", y.laid(0, 20, 0, 7), laidAt + 3);
         last600();
         leastMean();
+        atFirst();
     }
 
     private static void last600() {
@@ -917,6 +975,16 @@ public final class PromiseTest {
         Check.same("25: the last goes on behind 600", x.laid(0, 20, 0, 7), laidAt + 601);
         x.sort(0, 200, 0, 8);
         Check.same("25: all four", x.laid(0, 20, 0, 5), 0);
+        // 9 and 3 passes of 49 minutes, then 11 minutes each from 589 on: the second begins at 600
+        BlackRoad y = small(1, 490, 6);
+        y.roller(0, 10);
+        y.roller(1, 10);
+        y.roller(2, 45);
+        y.sort(0, 200, 0, 9);
+        y.sort(1, 200, 0, 3);
+        y.sort(2, 200, 0, 9);
+        Check.same("25: at 600", y.laid(0, 20, 0, 6), 7);
+        Check.same("25: over at 611", y.laid(0, 20, 0, 7), y.laid(0, 20, 0, 1) + 611);
     }
 
     private static void leastMean() {
@@ -938,6 +1006,47 @@ public final class PromiseTest {
         Check.same("25: two rollers", x.laid(0, 20, 1, 7), 11);
     }
 
+    /** A job laid with this heat: mix of 100 that was begun in minute 1 and loses one a minute, or hotter mix. */
+    private static BlackRoad laidWith(int heat) {
+        BlackRoad x = small(1, 10, 1);
+        x.heat(Math.max(100, heat), 1, 0, 80, 70);
+        if (heat <= 100) {
+            Check.hours(x, "haul 0 1 from 0; open " + (101 - heat) + " to 4319;");
+        } else {
+            x.heat(heat, 20, 0, 80, 70);
+        }
+        Check.same("25: laid with", x.laid(0, 20, 0, 2), heat);
+        return x;
+    }
+
+    /** The sorts as they are at first, each at the edge of TOP and LOW; MEAN is told a minute behind LAID. */
+    private static void atFirst() {
+        edge(0, 160, 157, 2, 5);
+        edge(0, 153, 150, 2, 2);
+        edge(0, 154, 151, 2, 3);
+        edge(0, 112, 110, 1, 2);
+        edge(0, 111, 109, 0, 0);
+        edge(1, 122, 120, 3, 2);
+        edge(1, 123, 121, 3, 3);
+        edge(1, 81, 80, 1, 2);
+        edge(1, 80, 79, 0, 0);
+        edge(2, 92, 90, 2, 2);
+        edge(2, 93, 91, 2, 3);
+        edge(2, 61, 60, 1, 2);
+        edge(2, 60, 59, 0, 0);
+    }
+
+    private static void edge(int sort, int heat, int mean, int made, int firstOver) {
+        BlackRoad x = laidWith(heat);
+        x.roller(sort, 10);
+        for (int lower = 0; lower < sort; lower++) x.sort(lower, 0, 0, 0);
+        int passes = sort == 1 ? 3 : 2;
+        int behind = firstOver + made - 1;
+        Check.same("26: a minute behind " + heat, x.mean(0, 20, 0, 1), mean);
+        Check.same("25: missed of " + heat, x.laid(0, 20, 0, 4 + sort), passes - made);
+        Check.same("25: over of " + heat, x.laid(0, 20, 0, 7), made == 0 ? -1 : x.laid(0, 20, 0, 1) + behind);
+    }
+
     private static void means() {
         BlackRoad x = small(1, 10, 1);
         int[] due = {160, 157, 154, 152, 150, 147, 145, 143, 141, 139, 137, 135};
@@ -952,6 +1061,17 @@ public final class PromiseTest {
         Check.same("26: pace above", x.mean(0, 21, 0, 0), -1000);
         x.layer(20, 1);
         Check.same("26: as run", x.mean(0, 20, 0, 0), -1000);
+        // 111 above AIR and W 9, then 111 above GROUND and G 9: 999 / 1000 is nothing
+        BlackRoad v = small(1, 10, 1);
+        v.heat(126, 20, 0, 80, 70);
+        v.weather(15, 20, 9, 1);
+        Check.same("26: 999 to the air", v.mean(0, 20, 0, 1), 126);
+        v.weather(14, 20, 9, 1);
+        Check.same("26: 1008 to the air", v.mean(0, 20, 0, 1), 125);
+        v.weather(15, 15, 1, 9);
+        Check.same("26: 999 to the ground", v.mean(0, 20, 0, 1), 126);
+        v.weather(15, 14, 1, 9);
+        Check.same("26: 1008 to the ground", v.mean(0, 20, 0, 1), 125);
         // the other way round it is cut towards 0 as well
         BlackRoad y = small(1, 10, 1);
         y.weather(-20, -20, 200, 200);
