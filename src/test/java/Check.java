@@ -1,16 +1,52 @@
+import java.util.ArrayList;
+import java.util.List;
+
 /** Counts answers that are not the ones that are due, and puts texts on an object's tape. */
 final class Check {
     private static int wrong = 0;
     private static int asked = 0;
+    private static int askedAhead = 0;
+    private static String named = "";
+    private static final List<String[]> SENTENCES = new ArrayList<>();
 
     private Check() {
+    }
+
+    /** What is checked from here on is for this sentence of the document; Sentences looks whether it stands there. */
+    static void sentence(String heading, String words) {
+        endSentence();
+        SENTENCES.add(new String[] {heading, words});
+        named = heading + ", \"" + words + "\": ";
+        askedAhead = asked;
+    }
+
+    private static void endSentence() {
+        if (!named.isEmpty() && asked == askedAhead) {
+            wrong++;
+            System.out.println(named + "has no check");
+        }
+        named = "";
+    }
+
+    /** Heading and words of those that were named so far. */
+    static List<String[]> sentences() {
+        endSentence();
+        return SENTENCES;
     }
 
     static void same(String what, long got, long due) {
         asked++;
         if (got != due) {
             wrong++;
-            System.out.println(what + " answered " + got + ", due is " + due);
+            System.out.println(named + what + " answered " + got + ", due is " + due);
+        }
+    }
+
+    static void sameText(String what, String got, String due) {
+        asked++;
+        if (!got.equals(due)) {
+            wrong++;
+            System.out.println(named + what + " answered\n    " + got + ", due is\n    " + due);
         }
     }
 
@@ -23,6 +59,7 @@ final class Check {
     }
 
     static void end(String name) {
+        endSentence();
         System.out.println(name + ": " + asked + " answers, " + wrong + " wrong");
         if (wrong != 0) System.exit(1);
     }

@@ -10,6 +10,10 @@ public final class ModelTest {
     private static int colds = 0;
     private static int rolled = 0;
 
+    /** An object is used for 512 calls; with fewer than this behind it one more turn keeps within them. */
+    private static final int MOST_USED = 470;
+
+    private int used = 0;
     private final Random random;
     private final int seed;
     private final BlackRoad road = new BlackRoad();
@@ -38,6 +42,7 @@ public final class ModelTest {
 
     private void same(String call, long got, long want) {
         calls++;
+        used++;
         if (got != want) {
             wrong++;
             System.out.println("seed " + seed + ": " + call + " answered " + got + ", the model " + want);
@@ -76,7 +81,7 @@ public final class ModelTest {
         for (int i = of(0, 3); i > 0; i--) sort();
         if (random.nextBoolean()) hours();
         if (random.nextBoolean()) rate();
-        for (int i = 0; i < 60; i++) {
+        for (int i = 0; i < 60 && used < MOST_USED; i++) {
             if (random.nextInt(8) == 0) change();
             ask();
             if (random.nextInt(4) == 0) wild();

@@ -56,6 +56,8 @@ public final class PromiseTest {
     }
 
     private static void newObject() {
+        // Promise 1, "No SECTIONS, LAYERS, PLANTS, ROLLERS; no HOURS."
+        // The constants, "The constants: `NONE = -1`: None."
         BlackRoad x = new BlackRoad();
         int[] due = {0, 0, 0, 6, 20, 0, 0, 1, 0, 0, 0};
         for (int what = 0; what < due.length; what++) Check.same("1: about " + what, x.about(what), due[what]);
@@ -82,6 +84,7 @@ public final class PromiseTest {
     }
 
     private static void sections() {
+        // Promise 2, "A SECTION: its number. NONE for others, or if there are 12."
         BlackRoad x = new BlackRoad();
         Check.same("2: short", x.section(9, 0), -1);
         Check.same("2: long", x.section(501, 0), -1);
@@ -97,6 +100,7 @@ public final class PromiseTest {
     }
 
     private static void evens() {
+        // Promise 3, "WIDE, SMOOTH, DEEP, MILL, LAY: true. False, changing nothing, for others."
         BlackRoad x = new BlackRoad();
         x.section(100, 10);
         x.section(100, 20);
@@ -124,6 +128,9 @@ public final class PromiseTest {
     }
 
     private static void levels() {
+        // Promise 4, "COST of THE BEST LEVELS. NONE: no SECTIONS, or there are none such."
+        // Promise 5, "The NEW LEVEL of a SECTION. NONE for others, and as levels()."
+        // Terms I, "THE BEST LEVELS: the least COST; of like ones the first by SECTIONS, the lower first."
         BlackRoad x = new BlackRoad();
         Check.same("4: no sections", x.levels(), -1);
         Check.same("5: no sections", x.level(0), -1);
@@ -167,6 +174,7 @@ public final class PromiseTest {
     }
 
     private static void layers() {
+        // Promise 6, "A LAYER: its number. NONE for others, or if there are 3."
         BlackRoad x = new BlackRoad();
         Check.same("6: thin", x.layer(19, 0), -1);
         Check.same("6: thick", x.layer(201, 0), -1);
@@ -181,6 +189,8 @@ public final class PromiseTest {
     }
 
     private static void jobs() {
+        // Promise 7, "Of a JOB: 0 SECTION, 1 LAYER, 2 DEPTH, 3 TONNES. NONE for others, and without LEVELS."
+        // Terms I, "TONNES: LONG * WIDE * DEPTH * 24 / 100000, one more if that isn't whole."
         BlackRoad x = new BlackRoad();
         x.layer(20, 0);
         Check.same("7: without sections", x.job(0, 3), -1);
@@ -216,6 +226,7 @@ public final class PromiseTest {
     }
 
     private static void plants() {
+        // Promise 8, "A PLANT: its number. NONE for others, or if there are 3."
         BlackRoad x = new BlackRoad();
         int[] low = {0, 1, 10, 1};
         int[] high = {2, 10, 200, 20};
@@ -244,6 +255,7 @@ public final class PromiseTest {
     }
 
     private static void trucks() {
+        // Promise 9, "TRUCKS, CARRY: true. False, changing nothing, for others."
         BlackRoad x = new BlackRoad();
         Check.no("9: no trucks", x.trucks(0, 20));
         Check.no("9: many", x.trucks(17, 20));
@@ -260,6 +272,7 @@ public final class PromiseTest {
     }
 
     private static void heats() {
+        // Promise 10, "HOT, KEEP, REFUSE, FIRM, JOIN: true. False, changing nothing, for others."
         BlackRoad x = small(2, 10, 1);
         int[] low = {100, 1, 0, 0, 0};
         int[] high = {200, 20, 200, 200, 200};
@@ -280,6 +293,7 @@ public final class PromiseTest {
     }
 
     private static void weathers() {
+        // Promise 11, "AIR, GROUND, W, G: true. False, changing nothing, for others."
         BlackRoad x = small(1, 10, 1);
         int[] low = {-20, -20, 1, 1};
         int[] high = {50, 60, 200, 200};
@@ -305,6 +319,7 @@ public final class PromiseTest {
     }
 
     private static void rollers() {
+        // Promise 12, "A ROLLER: its number. NONE for others, or if there are 6."
         BlackRoad x = small(1, 10, 1);
         Check.same("12: sort below", x.roller(-1, 10), -1);
         Check.same("12: sort above", x.roller(3, 10), -1);
@@ -321,6 +336,7 @@ public final class PromiseTest {
     }
 
     private static void sorts() {
+        // Promise 13, "Of a SORT TOP, LOW, PASSES: true. False, changing nothing, for others."
         BlackRoad x = small(1, 10, 1);
         x.roller(0, 10);
         int[][] bad = {{-1, 150, 110, 2}, {3, 150, 110, 2}, {0, 201, 110, 2}, {0, -1, -1, 2}, {0, 150, -1, 2},
@@ -338,6 +354,8 @@ public final class PromiseTest {
     }
 
     private static void feeds() {
+        // Promise 14, "Twenty bytes come behind the tape, the highest of a first: how many it has. NONE, and none come, if
+        // .. there would be more than 400."
         BlackRoad x = new BlackRoad();
         for (int i = 1; i <= 20; i++) Check.same("14: feed " + i, x.feed(0, 0, 0, 0, 0), 20 * i);
         Check.same("14: one too many", x.feed(0, 0, 0, 0, 0), -1);
@@ -360,6 +378,8 @@ public final class PromiseTest {
     }
 
     private static void ends() {
+        // Promise 15, "The tape has its first n bytes alone: n. NONE, and nothing is done, if it has not so many, or n is
+        // .. below 0."
         BlackRoad x = new BlackRoad();
         Check.same("15: empty", x.end(0), 0);
         Check.same("15: more than none", x.end(1), -1);
@@ -375,6 +395,8 @@ public final class PromiseTest {
     }
 
     private static void hoursTexts() {
+        // Promise 16, "The tape (empty then) becomes HOURS: how many CLAUSES."
+        // Terms II, "3 the 41st CLAUSE (at its word)."
         BlackRoad x = new BlackRoad();
         Check.same("16: empty", Check.hours(x, ""), 0);
         Check.same("16: blanks", Check.hours(x, "  \n \n"), 0);
@@ -399,6 +421,8 @@ public final class PromiseTest {
     }
 
     private static void hoursFaults() {
+        // Promise 16, "NONE: it has a FAULT, the former ones stay."
+        // Terms II, "1 it can't stand there, or is none. 2 a NUMBER that isn't one of those told."
         BlackRoad x = new BlackRoad();
         Check.hours(x, "world 0; rain 0 to 9; world 1;");
         String[] texts = {"x;", ";", "7", "Open 0 to 1;", "opens 0 to 1;", "open 0 1;", "open 0 to to 1;", "open 0 to 1",
@@ -425,6 +449,10 @@ public final class PromiseTest {
     }
 
     private static void rateTexts() {
+        // Promise 17, "The tape (empty then) becomes THE RATE: true."
+        // Promise 17, "or (the tape stays) more than 100 bytes."
+        // Terms V, "From the left; / cuts towards 0, by 0 it is 0; what is above 1000000000 (below the same less) is that,
+        // .. at each step."
         BlackRoad x = new BlackRoad();
         Check.tells(x, "t", 7);
         Check.tells(x, " d\n", 90);
@@ -473,6 +501,8 @@ public final class PromiseTest {
     }
 
     private static void rateFaults() {
+        // Promise 17, "False: it has a FAULT, the former one stays;"
+        // Terms V, "FAULTS as above: 1, 2, and 3 the 9th of ( and - that are open around one another (at it)."
         BlackRoad x = new BlackRoad();
         Check.yes("17: rate", Check.rate(x, "t*2"));
         String[] texts = {"", "  ", "x", "tt", "T", "td", "t d", "t 5", "5 t", "t+", "t*", "*t", "+t", "()", "(t", "t)",
@@ -496,6 +526,8 @@ public final class PromiseTest {
     }
 
     private static void faults() {
+        // Promise 18, "Of the latest text that was read: 0 its FAULT (0 without), 1 its place (NONE without). NONE for
+        // .. others, and ahead of any."
         BlackRoad x = new BlackRoad();
         Check.same("18: ahead of any", x.fault(0), -1);
         Check.same("18: ahead of any", x.fault(1), -1);
@@ -517,6 +549,9 @@ public final class PromiseTest {
     }
 
     private static void worlds() {
+        // Promise 19, "What a WORLD is in a MINUTE: 0 OPEN (1, 0), 1 .. 3 HAUL of a PLANT 0 .. 2, 4 .. 6 whether it is SHUT
+        // .. (1, 0; also if there is none such). NONE for others."
+        // Terms II, "of like ones the latest told; 20 without."
         BlackRoad x = new BlackRoad();
         Check.hours(x, "haul 0 5 from 10; shut 2 5 to 6; world 0; haul 0 7 from 10; haul 0 3 from 5; open 8 to 9;"
                 + "open 20 to 30; rain 25 to 25; world 1; haul 0 9 from 20; rain 0 to 0; world 2; shut 0 0 to 4319;");
@@ -557,6 +592,8 @@ public final class PromiseTest {
     }
 
     private static void runs() {
+        // Promise 20, "A RUN: 0 STOPS, 1 END, 2 LOADS, 3 the MINUTE of the first tonne, 4 LOADS REFUSED, 5 tonnes REFUSED.
+        // .. NONE: others, no JOBS, or it isn't DONE."
         // 17 tonnes by fives; a truck comes to the paver at 3, 7, 11 and 15 if it isn't kept
         BlackRoad x = small(1, 50, 1);
         int[][] due = {{1, 0, 19, 4, 3, 0, 0}, {2, 3, 15, 4, 3, 0, 0}, {4, 6, 15, 4, 3, 0, 0}, {5, 9, 15, 4, 3, 0, 0},
@@ -590,6 +627,8 @@ public final class PromiseTest {
     }
 
     private static void lastMinute() {
+        // Terms III, "A RUN is DONE in the MINUTE in which the last tonne is laid (END); it isn't, if that doesn't come by
+        // .. 4319,"
         BlackRoad x = small(1, 10, 1);
         Check.hours(x, "haul 0 1 from 0; shut 0 0 to 4316;");
         Check.same("20: in the last minute", x.run(0, 4, 1), 4319);
@@ -606,6 +645,8 @@ public final class PromiseTest {
     }
 
     private static void refusals() {
+        // Terms III, "Is it below REFUSE (0 .. 200; at first 110): the LOAD is REFUSED: its TONNES are to be ordered again
+        // .. (of this JOB, ahead of others that follow by number), nothing of it is laid."
         // the first load leaves at 11 and takes 10: 149 at 21; the next takes a minute: 158
         BlackRoad x = small(1, 10, 1);
         Check.hours(x, "haul 0 10 from 0; haul 0 1 from 15;");
@@ -638,6 +679,8 @@ public final class PromiseTest {
     }
 
     private static void shutAndOpen() {
+        // Terms III, "(1) Each PLANT that isn't SHUT makes RATE tonnes into its SILO"
+        // Terms III, "(5) The paver, if the road is OPEN:"
         BlackRoad x = small(1, 10, 1);
         Check.hours(x, "haul 0 1 from 0; shut 0 0 to 9;");
         // from 10 on it makes mix, and begins to fill at once
@@ -663,6 +706,7 @@ public final class PromiseTest {
     }
 
     private static void firm() {
+        // Terms III, "if the JOB under it (one LAYER below) is FIRM or colder by then (0 .. 200; at first 80)"
         // job 0 is laid at 3 with 160; MEAN 157 at 4, 154 at 5
         BlackRoad x = small(1, 10, 2);
         x.layer(20, 0);
@@ -689,6 +733,8 @@ public final class PromiseTest {
     }
 
     private static void plantsByTurns() {
+        // Terms III, "it goes to that PLANT of the JOB's KIND to which the fewest TRUCKS are sent (under way there,
+        // .. standing, being filled; of like ones the lowest)"
         BlackRoad x = small(4, 10, 4);
         x.plant(1, 10, 200, 1);
         x.plant(0, 10, 200, 1);
@@ -712,6 +758,8 @@ public final class PromiseTest {
     }
 
     private static void paces() {
+        // Promise 21, "THE PACE: by which the RUN is DONE in all WORLDS,"
+        // Promise 21, "then the lowest. NONE: none."
         BlackRoad x = small(1, 50, 1);
         Check.same("21: without stops", x.pace(), 1);
         Check.hours(x, "haul 0 1 from 0; open 0 to 18;");
@@ -735,6 +783,8 @@ public final class PromiseTest {
 
     /** Runs in which the worst world, all stops together, or the latest END tells between two paces. */
     private static void worstWorld() {
+        // Promise 21, "of these the one with the fewest STOPS in the worst WORLD, of like ones the fewest STOPS of all
+        // .. WORLDS together, then the earliest END of the latest WORLD,"
         ranked(0, 3, 141, 2, "world 0; haul 0 8 from 0; open 27 to 4000; world 1; haul 0 6 from 0; shut 0 2 to 13;", 31);
         ranked(0, 3, 139, 2, "world 0; haul 0 5 from 0; open 26 to 4000; world 1; haul 0 5 from 0; shut 0 2 to 16;", 56);
         ranked(1, 1, 145, 4, "world 0; haul 0 6 from 0; open 15 to 4000; world 1; haul 0 5 from 1; shut 0 7 to 19;", 96);
@@ -781,6 +831,8 @@ public final class PromiseTest {
     }
 
     private static void fewest() {
+        // Promise 22, "The fewest TRUCKS (1 .. 16) by which RUNS at a PACE are DONE in all WORLDS without STOPS. NONE:
+        // .. none, and for others. Nothing is changed."
         BlackRoad x = small(1, 50, 1);
         Check.same("22: one is enough", x.fewest(1), 1);
         Check.same("22: two", x.fewest(2), 2);
@@ -810,6 +862,9 @@ public final class PromiseTest {
     }
 
     private static void loads() {
+        // Promise 23, "Of a LOAD of a RUN: 0 its JOB, 1 tonnes, 2 its TRUCK, 3 its PLANT, 4 the MINUTE in which it was
+        // .. ordered, 5 in which the PLANT began to fill it (NONE: it never did), 6 in which the paver took it (NONE), 7
+        // .. its HEAT then (NONE), 8 REFUSED (1, 0). NONE for others, and as run()."
         BlackRoad x = small(1, 50, 1);
         int[][] due = {{0, 5, 0, 0, 0, 1, 3, 160, 0}, {0, 5, 0, 0, 4, 5, 7, 160, 0}, {0, 5, 0, 0, 8, 9, 11, 160, 0},
             {0, 2, 0, 0, 12, 13, 15, 160, 0}};
@@ -837,6 +892,7 @@ public final class PromiseTest {
     }
 
     private static void tonnes() {
+        // Promise 24, "The LOAD of which a tonne (from 0, as they were laid) is. NONE for others, and as run()."
         BlackRoad x = small(1, 50, 1);
         for (int i = 0; i < 17; i++) Check.same("24: tonne " + i, x.tonne(0, 2, i), i / 5);
         Check.same("24: behind the last", x.tonne(0, 2, 17), -1);
@@ -850,6 +906,7 @@ public final class PromiseTest {
     }
 
     private static void laid() {
+        // Promise 25, "NONE for others, and as run()."
         BlackRoad x = small(2, 50, 1);
         // 17 tonnes each; loads at 3, 7, 11, 15 of job 0, at 19, 23, 27, 31 of job 1
         int[][] due = {{3, 15, 160, 0, 2, 3, 2, -1, 72}, {19, 31, 160, 0, 2, 3, 2, -1, 72}};
@@ -874,6 +931,8 @@ public final class PromiseTest {
     }
 
     private static void joints() {
+        // Terms IV, "JOINT of a JOB with the one ahead of it in its LAYER: COLD, if that one's MEAN in the MINUTE of this
+        // .. JOB's first tonne is below JOIN (0 .. 200; at first 70). (SECTION 0 has none.)"
         // JOIN is 70 at first: laid at 3 with 160, MEAN comes to 70 at some minute and is less at a later one
         BlackRoad w = small(2, 10, 2);
         int seventy = 0;
@@ -924,6 +983,7 @@ public final class PromiseTest {
     }
 
     private static void rolling() {
+        // Terms IV, "A PASS takes LONG / SPEED MINUTES, rounded up."
         // laid at 3 with 160: 157, 154, 152, 150, 147, 145 ...
         BlackRoad x = small(1, 10, 1);
         x.roller(0, 10);
@@ -962,6 +1022,7 @@ public final class PromiseTest {
     }
 
     private static void last600() {
+        // Terms IV, "A ROLLER may begin a PASS on a JOB in a MINUTE behind LAID to 600 behind it,"
         BlackRoad x = small(1, 500, 6);
         x.roller(0, 10);
         x.sort(0, 200, 0, 9);
@@ -988,6 +1049,7 @@ public final class PromiseTest {
     }
 
     private static void leastMean() {
+        // Terms IV, "each that is free begins one on the JOB where it may and MEAN is least, of like ones the lowest."
         // laid at 3 and 4: at 5 job 0 is colder; one roller, two passes each
         BlackRoad x = small(2, 10, 2);
         x.roller(0, 10);
@@ -1021,6 +1083,8 @@ public final class PromiseTest {
 
     /** The sorts as they are at first, each at the edge of TOP and LOW; MEAN is told a minute behind LAID. */
     private static void atFirst() {
+        // Terms IV, "Of a SORT: TOP, LOW (0 .. 200, LOW not above), PASSES (0 .. 9); at first 150, 110, 2; 120, 80, 3; 90,
+        // .. 60, 2."
         edge(0, 160, 157, 2, 5);
         edge(0, 153, 150, 2, 2);
         edge(0, 154, 151, 2, 3);
@@ -1048,6 +1112,7 @@ public final class PromiseTest {
     }
 
     private static void means() {
+        // Promise 26, "MEAN of a JOB so many MINUTES (0 .. 600) behind LAID by a RUN. -1000 for others, and as run()."
         BlackRoad x = small(1, 10, 1);
         int[] due = {160, 157, 154, 152, 150, 147, 145, 143, 141, 139, 137, 135};
         for (int m = 0; m < due.length; m++) Check.same("26: mean " + m, x.mean(0, 20, 0, m), due[m]);
@@ -1096,6 +1161,7 @@ public final class PromiseTest {
     }
 
     private static void tells() {
+        // Promise 27, "What THE RATE tells with these (each -1000000 to 1000000). -2000000000 for others."
         BlackRoad x = new BlackRoad();
         Check.yes("27: rate", Check.rate(x, "t+d+j+m"));
         Check.same("27: most", x.tells(1000000, 1000000, 1000000, 1000000), 4000000);
@@ -1115,6 +1181,7 @@ public final class PromiseTest {
     }
 
     private static void pays() {
+        // Promise 28, "PAY. -1: others (n 1 to all JOBS), and as run()."
         // 4, 8 and 4 tonnes; JOIN so that job 2 has a cold joint
         BlackRoad x = new BlackRoad();
         x.section(10, 0);
@@ -1153,6 +1220,7 @@ public final class PromiseTest {
     }
 
     private static void cores() {
+        // Promise 29, "The i-th JOB that is DRAWN so. NONE for others."
         BlackRoad x = new BlackRoad();
         Check.same("29: no jobs", x.core(1, 1, 0), -1);
         x.section(10, 0);
@@ -1179,6 +1247,8 @@ public final class PromiseTest {
     }
 
     private static void abouts() {
+        // Promise 30, "0 SECTIONS, 1 LAYERS, 2 PLANTS, 3 TRUCKS, 4 CARRY, 5 ROLLERS, 6 CLAUSES, 7 WORLDS, 8 JOBS, 9 TONNES
+        // .. of all JOBS (0 without LEVELS), 10 bytes of the tape. NONE for others."
         BlackRoad x = small(3, 50, 7);
         x.layer(30, 0);
         x.roller(1, 20);
