@@ -22,8 +22,10 @@ final class CoolEdges {
         meanOthers();
     }
 
-    private static final String COOLING = "COOLING of a JOB: five SHELLS, from the top; at LAID all have its HEAT. Each MINUTE, by what was there: "
-            + "between two beside one another (upper less lower) * C / 1000 goes down; from the top shell (it less AIR) * W / 1000 goes off, "
+    private static final String COOLING = "COOLING of a JOB: five SHELLS, from the top; at LAID all have its HEAT. "
+            + "Each MINUTE, by what was there: "
+            + "between two beside one another (upper less lower) * C / 1000 goes down; from the top shell (it less "
+            + "AIR) * W / 1000 goes off, "
             + "from the lowest (it less GROUND) * G / 1000 (all cut towards 0).";
 
     /** MEAN of one JOB that was laid with this heat, told once more with C given. */
@@ -45,7 +47,7 @@ final class CoolEdges {
         return (shell[0] + shell[1] + shell[2] + shell[3] + shell[4]) / 5;
     }
 
-    /** One JOB of this DEPTH, laid with this heat at 100 less that, or a minute behind its PLANT's. */
+    /** One JOB of this DEPTH and HEAT: as hot as the mix is made, or of mix of 100 that waits so long for the road. */
     private static BlackRoad laid(int thick, int heat) {
         BlackRoad x = new BlackRoad();
         x.section(10, 0);
@@ -68,12 +70,12 @@ final class CoolEdges {
         Check.sentence("Terms IV", COOLING);
         BlackRoad x = laid(20, 160);
         Check.same("as it is laid", x.mean(0, 20, 0, 0), 160);
-        // 8 go off and 5 go down at first: 787 / 5; then 151 of the top lose 8 and 3 more to the next
+        // 8 go off from the top and 5 from the lowest: 787 / 5
         Check.same("a MINUTE", x.mean(0, 20, 0, 1), 157);
         for (int minutes = 0; minutes <= 600; minutes += 7) {
             Check.same("MEAN at " + minutes, x.mean(0, 20, 0, minutes), meanTold(160, 400, 15, 20, 60, 40, minutes));
         }
-        // each flow by what was there, not by what has just come: a hot top with nothing below it
+        // each flow by what was there, not by what has just come: the more goes, the sooner it is seen
         x.weather(-20, 60, 200, 200);
         for (int minutes = 0; minutes <= 40; minutes++) {
             Check.same("MEAN at " + minutes, x.mean(0, 20, 0, minutes), meanTold(160, 400, -20, 60, 200, 200, minutes));
@@ -92,7 +94,8 @@ final class CoolEdges {
             x.weather(v[1], v[3], v[2], v[4]);
             int off = (v[0] - v[1]) * v[2] / 1000;
             int out = (v[0] - v[3]) * v[4] / 1000;
-            Check.same("of " + v[0] + " by " + v[1] + " " + v[2] + " " + v[3] + " " + v[4], x.mean(0, 20, 0, 1), (5 * v[0] - off - out) / 5);
+            Check.same("of " + v[0] + " by " + v[1] + " " + v[2] + " " + v[3] + " " + v[4], x.mean(0, 20, 0, 1),
+                    (5 * v[0] - off - out) / 5);
             Check.same("told", (5 * v[0] - off - out) / 5, v[5]);
         }
         // between SHELLS: 2 * 400 / 1000 is nothing, 3 * 400 / 1000 is one, down and up
@@ -100,14 +103,16 @@ final class CoolEdges {
             BlackRoad x = laid(20, heat);
             x.weather(50, -20, 40, 40);
             for (int minutes = 0; minutes <= 60; minutes++) {
-                Check.same("MEAN at " + minutes, x.mean(0, 20, 0, minutes), meanTold(heat, 400, 50, -20, 40, 40, minutes));
+                Check.same("MEAN at " + minutes, x.mean(0, 20, 0, minutes),
+                        meanTold(heat, 400, 50, -20, 40, 40, minutes));
             }
         }
     }
 
     private static void conduction() {
         Check.sentence("Terms IV", "C: 400000 / (DEPTH * DEPTH), 400 at most.");
-        // DEPTH, C, HEAT, AIR, GROUND, W, G, and other C that would be seen: 1000 and 416 if they weren't held, 391 and 98 rounded up
+        // DEPTH, C, HEAT, AIR, GROUND, W, G, and other C that would be seen: 1000 and 416 if they weren't held,
+        // 391 and 98 rounded up
         int[][] due = {{20, 400, 200, -20, 20, 184, 199, 399, 1000}, {31, 400, 200, 15, 20, 192, 109, 399, 416},
             {32, 390, 193, -9, -17, 107, 198, 391, 400}, {33, 367, 196, -14, 13, 6, 166, 366, 400},
             {64, 97, 155, 50, 60, 193, 127, 96, 98}, {100, 40, 200, 15, 60, 106, 179, 39, 41},
@@ -196,8 +201,9 @@ final class CoolEdges {
 
     private static void passTimes() {
         Check.sentence("Terms IV", "A PASS takes LONG / SPEED MINUTES, rounded up.");
-        int[][] due = {{10, 10, 1}, {11, 10, 2}, {19, 10, 2}, {20, 10, 2}, {21, 10, 3}, {99, 100, 1}, {100, 100, 1}, {101, 100, 2},
-            {500, 10, 50}, {491, 10, 50}, {490, 10, 49}, {500, 100, 5}, {500, 51, 10}, {500, 50, 10}, {500, 49, 11}};
+        int[][] due = {{10, 10, 1}, {11, 10, 2}, {19, 10, 2}, {20, 10, 2}, {21, 10, 3}, {99, 100, 1}, {100, 100, 1},
+            {101, 100, 2}, {500, 10, 50}, {491, 10, 50}, {490, 10, 49}, {500, 100, 5}, {500, 51, 10}, {500, 50, 10},
+            {500, 49, 11}};
         for (int[] row : due) {
             BlackRoad x = Scene.small(1, row[0], 16);
             x.roller(0, row[1]);
@@ -207,7 +213,8 @@ final class CoolEdges {
         }
     }
 
-    private static final String BEGIN = "A ROLLER may begin a PASS on a JOB in a MINUTE behind LAID to 600 behind it, if MEAN is from LOW to TOP of its SORT, "
+    private static final String BEGIN = "A ROLLER may begin a PASS on a JOB in a MINUTE behind LAID to 600 behind it, "
+            + "if MEAN is from LOW to TOP of its SORT, "
             + "all PASSES of lower SORTS there are over, not all of its SORT were begun, and none goes on there.";
 
     private static void passBegins() {
@@ -241,7 +248,8 @@ final class CoolEdges {
         // all begun is all
         y.sort(0, 200, 0, 3);
         y.sort(1, 200, 0, 0);
-        Check.same("nine of SORT 2 behind three of SORT 0", y.laid(0, 20, 0, 7), y.laid(0, 20, 0, 1) + 1 + 3 * 49 + 9 * 11);
+        Check.same("nine of SORT 2 behind three of SORT 0", y.laid(0, 20, 0, 7),
+                y.laid(0, 20, 0, 1) + 1 + 3 * 49 + 9 * 11);
     }
 
     private static void passHeat() {
@@ -249,7 +257,8 @@ final class CoolEdges {
         // 157, 154, 152, 150, 147 in the MINUTES behind LAID at 3
         BlackRoad x = Scene.small(1, 10, 1);
         x.roller(0, 10);
-        int[][] due = {{157, 157, 5}, {156, 155, -1}, {156, 154, 6}, {154, 154, 6}, {153, 152, 7}, {200, 157, 5}, {200, 158, -1}, {151, 150, 8}, {149, 148, -1}, {149, 147, 9}};
+        int[][] due = {{157, 157, 5}, {156, 155, -1}, {156, 154, 6}, {154, 154, 6}, {153, 152, 7}, {200, 157, 5},
+                {200, 158, -1}, {151, 150, 8}, {149, 148, -1}, {149, 147, 9}};
         for (int[] row : due) {
             x.sort(0, row[0], row[1], 1);
             Check.same("from " + row[1] + " to " + row[0], x.laid(0, 20, 0, 7), row[2]);
@@ -257,7 +266,8 @@ final class CoolEdges {
     }
 
     private static void passOrder() {
-        Check.sentence("Terms IV", "all PASSES of lower SORTS there are over, not all of its SORT were begun, and none goes on there.");
+        Check.sentence("Terms IV", "all PASSES of lower SORTS there are over, not all of its SORT were begun, and none "
+                + "goes on there.");
         // 30 m at 10: three MINUTES each
         BlackRoad x = new BlackRoad();
         x.section(30, 0);
@@ -291,7 +301,8 @@ final class CoolEdges {
     }
 
     private static void likeJobs() {
-        Check.sentence("Terms IV", "MINUTE by MINUTE, by numbers, each that is free begins one on the JOB where it may and MEAN is least, of like ones the lowest.");
+        Check.sentence("Terms IV", "MINUTE by MINUTE, by numbers, each that is free begins one on the JOB where it may "
+                + "and MEAN is least, of like ones the lowest.");
         // three JOBS laid at 9 with 160
         BlackRoad x = Scene.small(3, 10, 3);
         Check.hours(x, "haul 0 1 from 0; open 9 to 9;");
@@ -356,20 +367,23 @@ final class CoolEdges {
         }
         x.roller(0, 10);
         Check.same("all nine are begun", x.laid(0, 20, 0, 4), 0);
-        // one that begins in the last MINUTE in which it may isn't MISSED, though it isn't over then
+        // 50 MINUTES each while MEAN is from 100 to 157: the last one begun isn't MISSED,
+        // though it is over when it is colder
         x.sort(0, 157, 100, 9);
-        int laidAt = x.laid(0, 20, 0, 1);
-        int last = 0;
-        for (int behind = 1; behind <= 600; behind++) if (x.mean(0, 20, 0, behind) >= 100) last = behind;
+        int heat = x.laid(0, 20, 0, 2);
         int due = 0;
-        for (int behind = 1; behind <= last; behind += 50) if (x.mean(0, 20, 0, behind) <= 157) due++;
+        for (int behind = 1; meanTold(heat, 400, 15, 20, 60, 40, behind) >= 100; behind += 50) {
+            if (meanTold(heat, 400, 15, 20, 60, 40, behind) <= 157) due++;
+        }
         Check.yes("some are begun", due > 0 && due < 9);
         Check.same("those begun", x.laid(0, 20, 0, 4), 9 - due);
-        Check.same("the last goes on", x.laid(0, 20, 0, 7), laidAt + 1 + 50 * due);
+        Check.same("the last goes on", x.laid(0, 20, 0, 7), x.laid(0, 20, 0, 1) + 1 + 50 * due);
+        Check.yes("to where it is colder", x.mean(0, 20, 0, 50 * due) < 100);
     }
 
     private static void joints() {
-        Check.sentence("Terms IV", "JOINT of a JOB with the one ahead of it in its LAYER: COLD, if that one's MEAN in the MINUTE of this JOB's first tonne "
+        Check.sentence("Terms IV", "JOINT of a JOB with the one ahead of it in its LAYER: COLD, if that one's MEAN in "
+                + "the MINUTE of this JOB's first tonne "
                 + "is below JOIN (0 .. 200; at first 70). (SECTION 0 has none.)");
         // JOB 0 is laid at 3, JOB 1 begins at 4, JOB 2 above JOB 0 at 7
         BlackRoad x = Scene.small(2, 10, 2);
@@ -410,14 +424,17 @@ final class CoolEdges {
         for (int j = 0; j < 36; j++) {
             int heat = x.laid(0, 20, j, 2);
             for (int minutes : new int[] {0, 1, 30, 565, 566, 599, 600}) {
-                Check.same("MEAN of " + j + " at " + minutes, x.mean(0, 20, j, minutes), meanTold(heat, 400, 15, 20, 60, 40, minutes));
+                Check.same("MEAN of " + j + " at " + minutes, x.mean(0, 20, j, minutes),
+                        meanTold(heat, 400, 15, 20, 60, 40, minutes));
             }
             Check.same("nothing MISSED of " + j, x.laid(0, 20, j, 8), 100);
         }
     }
 
-    private static final String LAID = "Of a JOB by a RUN: 0 the MINUTE of its first tonne, 1 LAID, 2 its HEAT, 3 whether its JOINT is COLD (1, 0), "
-            + "4 .. 6 MISSED of a SORT, 7 the MINUTE behind its last PASS (NONE), 8 DENSE. NONE for others, and as run().";
+    private static final String LAID = "Of a JOB by a RUN: 0 the MINUTE of its first tonne, 1 LAID, 2 its HEAT, 3 "
+            + "whether its JOINT is COLD (1, 0), "
+            + "4 .. 6 MISSED of a SORT, 7 the MINUTE behind its last PASS (NONE), 8 DENSE. NONE for others, and as "
+            + "run().";
 
     private static void laidOthers() {
         Check.sentence("Promise 25", LAID);
@@ -447,7 +464,8 @@ final class CoolEdges {
     }
 
     private static void meanOthers() {
-        Check.sentence("Promise 26", "MEAN of a JOB so many MINUTES (0 .. 600) behind LAID by a RUN. -1000 for others, and as run().");
+        Check.sentence("Promise 26", "MEAN of a JOB so many MINUTES (0 .. 600) behind LAID by a RUN. -1000 for others, "
+                + "and as run().");
         BlackRoad x = Scene.busy();
         String before = Scene.seen(x);
         int[] low = {0, 1, 0, 0};

@@ -31,7 +31,8 @@ final class PayEdges {
     }
 
     private static void dense() {
-        Check.sentence("Terms V", "DENSE of a JOB: 100, less 4 for each PASS that is MISSED, less 6 by a COLD JOINT, 0 at least.");
+        Check.sentence("Terms V", "DENSE of a JOB: 100, less 4 for each PASS that is MISSED, less 6 by a COLD JOINT, 0 "
+                + "at least.");
         int[][] due = {{0, 0, 0, 100, 94}, {1, 0, 0, 96, 90}, {0, 1, 0, 96, 90}, {0, 0, 1, 96, 90}, {9, 9, 5, 8, 2},
             {9, 9, 6, 4, 0}, {9, 9, 7, 0, 0}, {9, 9, 8, 0, 0}, {9, 9, 9, 0, 0}};
         for (int[] row : due) {
@@ -43,8 +44,10 @@ final class PayEdges {
         }
     }
 
-    private static final String CORES = "CORES: by a seed n JOBS are DRAWN: of the row of their numbers, for i from 0 to n - 1: "
-            + "s becomes s * 1103515245 + 12345 (32 bits), place i changes with place i + (s >>> 16) % (m - i), m JOBS in all.";
+    private static final String CORES = "CORES: by a seed n JOBS are DRAWN: of the row of their numbers, for i from 0 "
+            + "to n - 1: "
+            + "s becomes s * 1103515245 + 12345 (32 bits), place i changes with place i + (s >>> 16) % (m - i), m JOBS "
+            + "in all.";
 
     private static BlackRoad jobs(int sections, int layers) {
         BlackRoad x = new BlackRoad();
@@ -81,7 +84,8 @@ final class PayEdges {
 
     private static void drawnWraps() {
         Check.sentence("Terms V", CORES);
-        for (int seed : new int[] {0, 1, 2, -1, -2, 12345, 65535, 65536, Integer.MAX_VALUE, Integer.MIN_VALUE, 1 << 30, 0x7FFF8000}) {
+        for (int seed : new int[] {0, 1, 2, -1, -2, 12345, 65535, 65536, Integer.MAX_VALUE, Integer.MIN_VALUE,
+                1 << 30, 0x7FFF8000}) {
             BlackRoad x = jobs(5, 3);
             int[] row = new int[15];
             for (int i = 0; i < 15; i++) row[i] = i;
@@ -120,7 +124,8 @@ final class PayEdges {
     private static void divided() {
         Check.sentence("Terms V", "/ cuts towards 0, by 0 it is 0;");
         int[][] due = {{7, 2, 3}, {-7, 2, -3}, {7, -2, -3}, {-7, -2, 3}, {1, 2, 0}, {-1, 2, 0}, {8, 2, 4}, {-8, 2, -4},
-            {7, 0, 0}, {-7, 0, 0}, {0, 0, 0}, {0, 7, 0}, {1000000, -1, -1000000}, {-1000000, 1000000, -1}, {999999, 1000000, 0}};
+            {7, 0, 0}, {-7, 0, 0}, {0, 0, 0}, {0, 7, 0}, {1000000, -1, -1000000}, {-1000000, 1000000, -1},
+            {999999, 1000000, 0}};
         for (int[] row : due) told("t/d", row[0], row[1], row[2]);
         told("t/0+3", 5, 0, 3);
         told("t/0*d", 5, 6, 0);
@@ -157,8 +162,10 @@ final class PayEdges {
         told("9999*9999*11", 0, 0, 1000000000);
     }
 
-    private static final String PAY = "PAY of a RUN by n CORES of a seed: over all JOBS THE RATE with t its TONNES, d its DENSE "
-            + "(of those not DRAWN: the DENSE of those DRAWN together / n, cut), j 1 if its JOINT is COLD (else 0), m its MISSED PASSES.";
+    private static final String PAY = "PAY of a RUN by n CORES of a seed: over all JOBS THE RATE with t its TONNES, d "
+            + "its DENSE "
+            + "(of those not DRAWN: the DENSE of those DRAWN together / n, cut), j 1 if its JOINT is COLD (else 0), m "
+            + "its MISSED PASSES.";
 
     /** Three JOBS of 4, 7 and 11 tonnes; DENSE 80, 74 and 74, for five PASSES are MISSED on each. */
     private static BlackRoad three() {
@@ -231,7 +238,9 @@ final class PayEdges {
         Scene.refuses("pay", -1, low, high, good, v -> x.pay(v[0], v[1], v[2], 9));
         Check.sameText("others change nothing", Scene.seen(x), before);
         Check.yes("all JOBS", x.pay(0, 4, 6, 9) > 0);
-        for (int seed : new int[] {Integer.MIN_VALUE, -1, 0, Integer.MAX_VALUE}) Check.yes("any seed", x.pay(0, 4, 3, seed) > 0);
+        for (int seed : new int[] {Integer.MIN_VALUE, -1, 0, Integer.MAX_VALUE}) {
+            Check.yes("any seed", x.pay(0, 4, 3, seed) > 0);
+        }
         x.layer(20, 1);
         Check.same("as run()", x.pay(0, 4, 2, 9), -1);
         Check.same("no JOBS", new BlackRoad().pay(0, 1, 0, 9), -1);
@@ -251,7 +260,8 @@ final class PayEdges {
     }
 
     private static void tellsOthers() {
-        Check.sentence("Promise 27", "What THE RATE tells with these (each -1000000 to 1000000). -2000000000 for others.");
+        Check.sentence("Promise 27", "What THE RATE tells with these (each -1000000 to 1000000). -2000000000 for "
+                + "others.");
         BlackRoad x = Scene.busy();
         String before = Scene.seen(x);
         int[] low = {-1000000, -1000000, -1000000, -1000000};
@@ -292,7 +302,8 @@ final class PayEdges {
         Check.same("two without a PLANT", y.core(2, 9, 0) + y.core(2, 9, 1), 1);
     }
 
-    private static final String ABOUT = "0 SECTIONS, 1 LAYERS, 2 PLANTS, 3 TRUCKS, 4 CARRY, 5 ROLLERS, 6 CLAUSES, 7 WORLDS, 8 JOBS, "
+    private static final String ABOUT = "0 SECTIONS, 1 LAYERS, 2 PLANTS, 3 TRUCKS, 4 CARRY, 5 ROLLERS, 6 CLAUSES, 7 "
+            + "WORLDS, 8 JOBS, "
             + "9 TONNES of all JOBS (0 without LEVELS), 10 bytes of the tape. NONE for others.";
 
     private static void aboutEmpty() {
@@ -328,7 +339,9 @@ final class PayEdges {
         Check.sentence("Promise 30", ABOUT);
         BlackRoad x = Scene.busy();
         String before = Scene.seen(x);
-        for (int bad : new int[] {-1, 11, 12, Integer.MIN_VALUE, Integer.MAX_VALUE}) Check.same("about " + bad, x.about(bad), -1);
+        for (int bad : new int[] {-1, 11, 12, Integer.MIN_VALUE, Integer.MAX_VALUE}) {
+            Check.same("about " + bad, x.about(bad), -1);
+        }
         Check.sameText("others change nothing", Scene.seen(x), before);
         BlackRoad y = new BlackRoad();
         y.layer(20, 0);

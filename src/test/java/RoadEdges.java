@@ -156,7 +156,8 @@ final class RoadEdges {
     }
 
     private static void likeLevels() {
-        Check.sentence("Terms I", "THE BEST LEVELS: the least COST; of like ones the first by SECTIONS, the lower first.");
+        Check.sentence("Terms I", "THE BEST LEVELS: the least COST; of like ones the first by SECTIONS, the lower "
+                + "first.");
         // 10 12, 11 13 and 12 14 cost the same
         BlackRoad x = olds(10, 14);
         x.even(70, 2, 10, 3, 3);
@@ -282,7 +283,8 @@ final class RoadEdges {
     }
 
     private static void depths() {
-        Check.sentence("Terms I", "DEPTH of a JOB: THICK of its LAYER, of LAYER 0 besides what THE BEST LEVELS are above the old one there.");
+        Check.sentence("Terms I", "DEPTH of a JOB: THICK of its LAYER, of LAYER 0 besides what THE BEST LEVELS are "
+                + "above the old one there.");
         BlackRoad x = olds(0, 12, 30);
         x.layer(50, 0);
         x.layer(60, 0);
@@ -325,7 +327,8 @@ final class RoadEdges {
     }
 
     private static void jobOthers() {
-        Check.sentence("Promise 7", "Of a JOB: 0 SECTION, 1 LAYER, 2 DEPTH, 3 TONNES. NONE for others, and without LEVELS.");
+        Check.sentence("Promise 7", "Of a JOB: 0 SECTION, 1 LAYER, 2 DEPTH, 3 TONNES. NONE for others, and without "
+                + "LEVELS.");
         BlackRoad x = new BlackRoad();
         Check.same("without SECTIONS and LAYERS", x.job(0, 0), -1);
         x.layer(20, 0);

@@ -38,7 +38,8 @@ final class RunEdges {
     }
 
     private static void hauls() {
-        Check.sentence("Terms II", "In a WORLD: HAUL of a PLANT at a MINUTE: of its haul CLAUSES that hold there the one with "
+        Check.sentence("Terms II", "In a WORLD: HAUL of a PLANT at a MINUTE: of its haul CLAUSES that hold there the "
+                + "one with "
                 + "the greatest from not above it, of like ones the latest told; 20 without.");
         BlackRoad x = new BlackRoad();
         Check.hours(x, "haul 1 9 from 9; haul 1 8 from 9; haul 1 5 from 5; haul 1 1 from 4319;"
@@ -72,9 +73,11 @@ final class RunEdges {
     }
 
     private static void opens() {
-        Check.sentence("Terms II", "The road is OPEN in MINUTES of open CLAUSES (in all, if no open CLAUSE holds in that WORLD), but not in RAIN.");
+        Check.sentence("Terms II", "The road is OPEN in MINUTES of open CLAUSES (in all, if no open CLAUSE holds in "
+                + "that WORLD), but not in RAIN.");
         BlackRoad x = new BlackRoad();
-        Check.hours(x, "rain 7 to 8; world 0; open 0 to 0; open 4319 to 4319; open 5 to 8; open 8 to 9; world 1; rain 0 to 0; rain 4319 to 4319; world 2; open 8 to 8;");
+        Check.hours(x, "rain 7 to 8; world 0; open 0 to 0; open 4319 to 4319; open 5 to 8; open 8 to 9; world 1; rain "
+                + "0 to 0; rain 4319 to 4319; world 2; open 8 to 8;");
         for (int minute : new int[] {0, 1, 4, 5, 6, 7, 8, 9, 10, 4318, 4319}) {
             boolean rain = minute == 7 || minute == 8;
             boolean open = minute == 0 || minute == 4319 || minute >= 5 && minute <= 9;
@@ -92,10 +95,12 @@ final class RunEdges {
     }
 
     private static void worldOthers() {
-        Check.sentence("Promise 19", "What a WORLD is in a MINUTE: 0 OPEN (1, 0), 1 .. 3 HAUL of a PLANT 0 .. 2, 4 .. 6 whether it is SHUT (1, 0; also if there is none such). NONE for others.");
+        Check.sentence("Promise 19", "What a WORLD is in a MINUTE: 0 OPEN (1, 0), 1 .. 3 HAUL of a PLANT 0 .. 2, 4 .. "
+                + "6 whether it is SHUT (1, 0; also if there is none such). NONE for others.");
         BlackRoad x = new BlackRoad();
         // no PLANT has come
-        Check.hours(x, "haul 0 1 from 0; haul 1 2 from 0; haul 2 3 from 0; shut 0 0 to 1; shut 2 1 to 4319; world 0; world 1; rain 4319 to 4319;");
+        Check.hours(x, "haul 0 1 from 0; haul 1 2 from 0; haul 2 3 from 0; shut 0 0 to 1; shut 2 1 to 4319; world 0; "
+                + "world 1; rain 4319 to 4319;");
         int[][] due = {{0, 0, 1, 1, 2, 3, 1, 0, 0}, {0, 1, 1, 1, 2, 3, 1, 0, 1}, {1, 4319, 0, 1, 2, 3, 0, 0, 1}};
         for (int[] row : due) {
             for (int what = 0; what <= 6; what++) {
@@ -139,7 +144,8 @@ final class RunEdges {
     }
 
     private static void making() {
-        Check.sentence("Terms III", "(1) Each PLANT that isn't SHUT makes RATE tonnes into its SILO (what has no room isn't made).");
+        Check.sentence("Terms III", "(1) Each PLANT that isn't SHUT makes RATE tonnes into its SILO (what has no room "
+                + "isn't made).");
         // 7 at 0, 10 at 1 (not 14): none left for the second, 7 at 2, 10 at 3
         BlackRoad x = made(7, 10, 2, 10, "");
         Check.same("the first", x.load(0, 20, 0, 5), 1);
@@ -155,7 +161,8 @@ final class RunEdges {
     }
 
     private static void standing() {
-        Check.sentence("Terms III", "(2) TRUCKS, by numbers, that come in this MINUTE: at a PLANT, or at the paver, each stands behind the others there.");
+        Check.sentence("Terms III", "(2) TRUCKS, by numbers, that come in this MINUTE: at a PLANT, or at the paver, "
+                + "each stands behind the others there.");
         // all three come to the PLANT at 1
         BlackRoad x = Scene.small(1, 50, 3);
         for (int k = 0; k < 3; k++) Check.same("by numbers at the PLANT", x.load(0, 20, k, 5), 1 + k);
@@ -192,8 +199,10 @@ final class RunEdges {
         for (int i = 0; i < order.length; i++) Check.same("tonne " + i, x.tonne(0, 20, i), order[i]);
     }
 
-    private static final String THREE = "(3) PLANTS by numbers: one that is ready with a TRUCK sends it off (it comes HAUL of then later to the paver); "
-            + "one that fills none, isn't SHUT, and whose SILO has what the first TRUCK there is to have, begins to fill it "
+    private static final String THREE = "(3) PLANTS by numbers: one that is ready with a TRUCK sends it off (it comes "
+            + "HAUL of then later to the paver); "
+            + "one that fills none, isn't SHUT, and whose SILO has what the first TRUCK there is to have, begins to "
+            + "fill it "
             + "(that goes out of the SILO; it is ready FILL MINUTES later).";
 
     private static void sendingOff() {
@@ -241,9 +250,12 @@ final class RunEdges {
         Check.same("none while it fills one", z.load(0, 20, 1, 5), 21);
     }
 
-    private static final String FOUR = "(4) TRUCKS, by numbers, that are free (at the beginning all are): each is ordered a LOAD: "
-            + "of the first JOB of which not all TONNES are ordered: CARRY, or what is left of that JOB; it goes to that PLANT of the JOB's KIND "
-            + "to which the fewest TRUCKS are sent (under way there, standing, being filled; of like ones the lowest), and comes there HAUL of then later; "
+    private static final String FOUR = "(4) TRUCKS, by numbers, that are free (at the beginning all are): each is "
+            + "ordered a LOAD: "
+            + "of the first JOB of which not all TONNES are ordered: CARRY, or what is left of that JOB; it goes to "
+            + "that PLANT of the JOB's KIND "
+            + "to which the fewest TRUCKS are sent (under way there, standing, being filled; of like ones the lowest), "
+            + "and comes there HAUL of then later; "
             + "without such a JOB it stays free. LOADS are numbered as they are ordered.";
 
     private static void ordering() {
@@ -271,7 +283,9 @@ final class RunEdges {
         Check.hours(y, "haul 0 6 from 0; haul 0 1 from 1;");
         int[][] loads = {{0, 5, 0, 0, 0, 6}, {0, 2, 1, 0, 0, 7}, {1, 5, 2, 0, 0, 8}, {1, 2, 0, 0, 9, 10}};
         for (int k = 0; k < 4; k++) {
-            for (int what = 0; what < 6; what++) Check.same("LOAD " + k + " what " + what, y.load(0, 20, k, what), loads[k][what]);
+            for (int what = 0; what < 6; what++) {
+                Check.same("LOAD " + k + " what " + what, y.load(0, 20, k, what), loads[k][what]);
+            }
         }
         Check.same("no more", y.load(0, 20, 4, 0), -1);
     }
@@ -332,9 +346,12 @@ final class RunEdges {
         Check.same("the fourth is 2", y.load(0, 20, 3, 1), 2);
     }
 
-    private static final String FIVE = "(5) The paver, if the road is OPEN: up to PACE tonnes of the JOB AT HAND (the first not all laid), "
-            + "if the JOB under it (one LAYER below) is FIRM or colder by then (0 .. 200; at first 80): out of what it has; "
-            + "if it has none, it takes the first TRUCK standing there that has a LOAD of that JOB (the TRUCK is free from the next MINUTE on), "
+    private static final String FIVE = "(5) The paver, if the road is OPEN: up to PACE tonnes of the JOB AT HAND (the "
+            + "first not all laid), "
+            + "if the JOB under it (one LAYER below) is FIRM or colder by then (0 .. 200; at first 80): out of what it "
+            + "has; "
+            + "if it has none, it takes the first TRUCK standing there that has a LOAD of that JOB (the TRUCK is free "
+            + "from the next MINUTE on), "
             + "and goes on in the same MINUTE, with the next JOB, too.";
 
     private static void paving() {
@@ -342,8 +359,8 @@ final class RunEdges {
         // LOADS of 4 stand there as the road opens at 50
         BlackRoad x = Scene.small(5, 10, 5);
         Check.hours(x, "haul 0 1 from 0; open 50 to 4319;");
-        int[][] taken = {{4, 50, 51, 52, 53, 54}, {5, 50, 50, 51, 52, 53}, {3, 50, 51, 52, 54, 55}, {8, 50, 50, 51, 51, 52},
-            {9, 50, 50, 50, 51, 51}, {19, 50, 50, 50, 50, 50}, {20, 50, 50, 50, 50, 50}};
+        int[][] taken = {{4, 50, 51, 52, 53, 54}, {5, 50, 50, 51, 52, 53}, {3, 50, 51, 52, 54, 55},
+            {8, 50, 50, 51, 51, 52}, {9, 50, 50, 50, 51, 51}, {19, 50, 50, 50, 50, 50}, {20, 50, 50, 50, 50, 50}};
         for (int[] row : taken) {
             for (int k = 0; k < 5; k++) Check.same("LOAD " + k + " at " + row[0], x.load(0, row[0], k, 6), row[k + 1]);
         }
@@ -378,7 +395,8 @@ final class RunEdges {
     }
 
     private static void firm() {
-        Check.sentence("Terms III", "if the JOB under it (one LAYER below) is FIRM or colder by then (0 .. 200; at first 80)");
+        Check.sentence("Terms III", "if the JOB under it (one LAYER below) is FIRM or colder by then (0 .. 200; at "
+                + "first 80)");
         // JOB 0 is laid at 3; the LOAD of JOB 1 stands there from 4 on
         BlackRoad x = Scene.small(1, 10, 2);
         x.layer(20, 0);
@@ -409,7 +427,8 @@ final class RunEdges {
     }
 
     private static void heatCut() {
-        Check.sentence("Terms III", "HEAT of a LOAD as it is taken: HOT (100 .. 200; at first 160) less the MINUTES since the PLANT began to fill it / KEEP (1 .. 20; at first 4).");
+        Check.sentence("Terms III", "HEAT of a LOAD as it is taken: HOT (100 .. 200; at first 160) less the MINUTES "
+                + "since the PLANT began to fill it / KEEP (1 .. 20; at first 4).");
         int[][] due = {{4, 3, 160}, {4, 4, 160}, {4, 5, 159}, {4, 8, 159}, {4, 9, 158}, {1, 3, 158}, {1, 4, 157},
             {20, 20, 160}, {20, 21, 159}, {3, 3, 160}, {3, 4, 159}, {19, 19, 160}, {19, 20, 159}};
         BlackRoad x = Scene.small(1, 10, 1);
@@ -429,7 +448,8 @@ final class RunEdges {
     }
 
     private static void refused() {
-        Check.sentence("Terms III", "Is it below REFUSE (0 .. 200; at first 110): the LOAD is REFUSED: its TONNES are to be ordered again "
+        Check.sentence("Terms III", "Is it below REFUSE (0 .. 200; at first 110): the LOAD is REFUSED: its TONNES are "
+                + "to be ordered again "
                 + "(of this JOB, ahead of others that follow by number), nothing of it is laid.");
         // 17 tonnes: LOADS begun at 1, 2, 3 and 4 stand there as the road opens at 20 with 141, 142, 143 and 144
         int[][] due = {{141, 0, 0}, {142, 1, 5}, {143, 2, 10}, {144, 3, 15}, {145, 4, 17}};
@@ -463,7 +483,9 @@ final class RunEdges {
         int[][] due = {{0, 4, 0, 0, 0, 10, 16, 154, 1}, {1, 4, 1, 0, 0, 11, 20, 151, 1}, {0, 4, 0, 0, 17, 18, 20, 158, 0},
             {1, 4, 0, 0, 21, 22, 24, 158, 0}, {2, 4, 1, 0, 21, 23, 25, 158, 0}};
         for (int k = 0; k < 5; k++) {
-            for (int what = 0; what < 9; what++) Check.same("LOAD " + k + " what " + what, x.load(0, 20, k, what), due[k][what]);
+            for (int what = 0; what < 9; what++) {
+                Check.same("LOAD " + k + " what " + what, x.load(0, 20, k, what), due[k][what]);
+            }
         }
         Check.same("five in all", x.run(0, 20, 2), 5);
         Check.same("the first tonne is of LOAD 2", x.tonne(0, 20, 0), 2);
@@ -473,7 +495,8 @@ final class RunEdges {
     }
 
     private static void stops() {
-        Check.sentence("Terms III", "An OPEN MINUTE in which nothing is laid, behind the first and ahead of the last one in which something is, is a STOP.");
+        Check.sentence("Terms III", "An OPEN MINUTE in which nothing is laid, behind the first and ahead of the last "
+                + "one in which something is, is a STOP.");
         // LOADS of 17 tonnes at 3, 7, 11 and 15: nine MINUTES between them are without
         BlackRoad x = Scene.small(1, 50, 1);
         Check.same("nine", x.run(0, 20, 0), 9);
@@ -501,7 +524,8 @@ final class RunEdges {
     }
 
     private static void done() {
-        Check.sentence("Terms III", "A RUN is DONE in the MINUTE in which the last tonne is laid (END); it isn't, if that doesn't come by 4319, or a KIND has no PLANT.");
+        Check.sentence("Terms III", "A RUN is DONE in the MINUTE in which the last tonne is laid (END); it isn't, if "
+                + "that doesn't come by 4319, or a KIND has no PLANT.");
         BlackRoad x = Scene.small(1, 10, 1);
         Check.hours(x, "haul 0 1 from 0; open 4319 to 4319;");
         x.heat(160, 20, 0, 80, 70);
@@ -540,7 +564,8 @@ final class RunEdges {
     }
 
     private static void laidHeat() {
-        Check.sentence("Terms III", "LAID of a JOB: the MINUTE of its last tonne; its HEAT: the least one of its LOADS that were laid.");
+        Check.sentence("Terms III", "LAID of a JOB: the MINUTE of its last tonne; its HEAT: the least one of its LOADS "
+                + "that were laid.");
         // LOADS of 141, 142, 143 and 144; the refused ones don't count, those that come again have 158 and less
         BlackRoad x = Scene.small(1, 50, 4);
         Check.hours(x, "haul 0 1 from 0; open 20 to 4319;");
@@ -551,7 +576,8 @@ final class RunEdges {
             Check.same("HEAT by " + row[0], x.laid(0, 20, 0, 2), row[2]);
             Check.same("the first tonne", x.laid(0, 20, 0, 0), 20);
         }
-        // at pace 1 the LOADS are taken at 20, 25, 30 and 35; the last one by 130 is refused, and comes again at 39 with 158
+        // at pace 1 the LOADS are taken at 20, 25, 30 and 35; the last one by 130 is refused,
+        // and comes again at 39 with 158
         x.heat(160, 1, 129, 80, 70);
         Check.same("HEAT at the last", x.laid(0, 1, 0, 2), 129);
         Check.same("LAID with its two tonnes", x.laid(0, 1, 0, 1), 36);
@@ -561,7 +587,8 @@ final class RunEdges {
     }
 
     private static void runOthers() {
-        Check.sentence("Promise 20", "A RUN: 0 STOPS, 1 END, 2 LOADS, 3 the MINUTE of the first tonne, 4 LOADS REFUSED, 5 tonnes REFUSED. NONE: others, no JOBS, or it isn't DONE.");
+        Check.sentence("Promise 20", "A RUN: 0 STOPS, 1 END, 2 LOADS, 3 the MINUTE of the first tonne, 4 LOADS "
+                + "REFUSED, 5 tonnes REFUSED. NONE: others, no JOBS, or it isn't DONE.");
         BlackRoad x = Scene.busy();
         String before = Scene.seen(x);
         int[] low = {0, 1, 0};
@@ -615,7 +642,8 @@ final class RunEdges {
     }
 
     private static void fewestRange() {
-        Check.sentence("Promise 22", "The fewest TRUCKS (1 .. 16) by which RUNS at a PACE are DONE in all WORLDS without STOPS. NONE: none, and for others. Nothing is changed.");
+        Check.sentence("Promise 22", "The fewest TRUCKS (1 .. 16) by which RUNS at a PACE are DONE in all WORLDS "
+                + "without STOPS. NONE: none, and for others. Nothing is changed.");
         // eighty tonnes by fives, forty MINUTES for each way there and back: sixteen at the least
         BlackRoad x = Scene.small(1, 238, 3);
         Check.hours(x, "");
@@ -657,9 +685,11 @@ final class RunEdges {
         for (int what = 0; what < 9; what++) Check.same("as run()", x.load(0, 4, 1, what), -1);
     }
 
-    /** In a RUN that is DONE each LOAD was begun and taken: all that was ordered is laid or REFUSED, so that NONE is never due. */
+    /** In a RUN that is DONE each LOAD was begun and taken: all that was ordered is laid or REFUSED,
+            so that NONE is never due. */
     private static void loadsAreTaken() {
-        Check.sentence("Promise 23", "5 in which the PLANT began to fill it (NONE: it never did), 6 in which the paver took it (NONE), 7 its HEAT then (NONE), 8 REFUSED (1, 0).");
+        Check.sentence("Promise 23", "5 in which the PLANT began to fill it (NONE: it never did), 6 in which the paver "
+                + "took it (NONE), 7 its HEAT then (NONE), 8 REFUSED (1, 0).");
         BlackRoad x = Scene.busy();
         for (int k = 0; k < x.run(1, 4, 2); k++) {
             int ordered = x.load(1, 4, k, 4);
@@ -673,7 +703,8 @@ final class RunEdges {
     }
 
     private static void tonneOthers() {
-        Check.sentence("Promise 24", "The LOAD of which a tonne (from 0, as they were laid) is. NONE for others, and as run().");
+        Check.sentence("Promise 24", "The LOAD of which a tonne (from 0, as they were laid) is. NONE for others, and "
+                + "as run().");
         BlackRoad x = Scene.busy();
         String before = Scene.seen(x);
         int all = x.about(9);
@@ -701,10 +732,13 @@ final class RunEdges {
         Check.same("168 tonnes", x.job(11, 3), 168);
         Check.same("408 LOADS", x.run(0, 20, 2), 408);
         for (int j = 0; j < 12; j++) {
-            for (int i : new int[] {0, 4, 5, 164, 165, 167}) Check.same("tonne " + i + " of " + j, x.tonne(0, 20, 168 * j + i), 34 * j + i / 5);
+            for (int i : new int[] {0, 4, 5, 164, 165, 167}) {
+                Check.same("tonne " + i + " of " + j, x.tonne(0, 20, 168 * j + i), 34 * j + i / 5);
+            }
         }
         Check.same("behind the last", x.tonne(0, 20, 168 * 12), -1);
-        Check.sentence("Promise 23", "Of a LOAD of a RUN: 0 its JOB, 1 tonnes, 2 its TRUCK, 3 its PLANT, 4 the MINUTE in which it was ordered,");
+        Check.sentence("Promise 23", "Of a LOAD of a RUN: 0 its JOB, 1 tonnes, 2 its TRUCK, 3 its PLANT, 4 the MINUTE "
+                + "in which it was ordered,");
         Check.same("the last LOAD's JOB", x.load(0, 20, 407, 0), 11);
         Check.same("its tonnes", x.load(0, 20, 407, 1), 3);
         Check.same("its PLANT", x.load(0, 20, 407, 3), 0);
@@ -743,7 +777,9 @@ final class RunEdges {
         String hours = "haul 0 1 from 0;haul 1 2 from 0;world 0;world 1;rain 0 to 4319;world 2;shut 0 0 to 4319;";
         String due = anew(stuck(hours), -1, 0);
         for (int world = 0; world < 3; world++) {
-            for (int pace : new int[] {1, 4, 20}) Check.sameText("after WORLD " + world + " at " + pace, anew(stuck(hours), world, pace), due);
+            for (int pace : new int[] {1, 4, 20}) {
+                Check.sameText("after WORLD " + world + " at " + pace, anew(stuck(hours), world, pace), due);
+            }
         }
         // the road opens for one MINUTE in which a part is laid: the paver has 3 of 5 tonnes at the end of time
         BlackRoad x = Scene.small(1, 20, 2);

@@ -67,7 +67,8 @@ final class TextEdges {
     }
 
     private static void tapeCut() {
-        Check.sentence("Promise 15", "The tape has its first n bytes alone: n. NONE, and nothing is done, if it has not so many, or n is below 0.");
+        Check.sentence("Promise 15", "The tape has its first n bytes alone: n. NONE, and nothing is done, if it has "
+                + "not so many, or n is below 0.");
         BlackRoad x = new BlackRoad();
         Check.same("none of none", x.end(0), 0);
         Check.same("one of none", x.end(1), -1);
@@ -151,10 +152,11 @@ final class TextEdges {
     }
 
     private static void hoursBytes() {
-        Check.sentence("Terms II", "TOKENS, blanks (32, 10) aside: letters a .. z, A .. Z one behind the other (one TOKEN), digits likewise (NUMBERS), ; {CLAUSE}.");
+        Check.sentence("Terms II", "TOKENS, blanks (32, 10) aside: letters a .. z, A .. Z one behind the other (one "
+                + "TOKEN), digits likewise (NUMBERS), ; {CLAUSE}.");
         BlackRoad x = null;
         for (int b = 0; b < 256; b++) {
-            if (b % 25 == 0) x = new BlackRoad();
+            if (b % 10 == 0) x = new BlackRoad();
             char sign = (char) b;
             if (isBlank(b)) {
                 Check.same("blank " + b, Check.hours(x, sign + "rain" + sign + "0" + sign + "to" + sign + "1;" + sign), 1);
@@ -179,16 +181,19 @@ final class TextEdges {
     }
 
     private static final String CLAUSES = "CLAUSE: world NUMBER ; (the next one: 0, then 1, then 2, three at most: "
-            + "what is behind it holds in it alone; what is ahead of the first one in all), haul NUMBER NUMBER from NUMBER ; "
+            + "what is behind it holds in it alone; what is ahead of the first one in all), haul NUMBER NUMBER from "
+            + "NUMBER ; "
             + "(a PLANT 0 .. 2; minutes each way, 1 .. 120, for trucks that leave from that MINUTE on), "
             + "shut NUMBER NUMBER to NUMBER ; (a PLANT), open NUMBER to NUMBER ; rain NUMBER to NUMBER ; "
             + "(MINUTES, both too, the second not below the first).";
 
-    private static final String[] FORMS = {"world 0 ;", "haul 0 1 from 0 ;", "shut 0 0 to 0 ;", "open 0 to 0 ;", "rain 0 to 0 ;"};
+    private static final String[] FORMS = {"world 0 ;", "haul 0 1 from 0 ;", "shut 0 0 to 0 ;", "open 0 to 0 ;", "rain "
+            + "0 to 0 ;"};
 
     /** Each CLAUSE cut off behind each of its TOKENS, and with another TOKEN in each place. */
     private static void clauseTokens() {
-        Check.sentence("Terms II", "FAULTS, the first as TOKENS are come to, at the TOKEN's first byte (of the end at the length), of one the least: 1 it can't stand there, or is none.");
+        Check.sentence("Terms II", "FAULTS, the first as TOKENS are come to, at the TOKEN's first byte (of the end at "
+                + "the length), of one the least: 1 it can't stand there, or is none.");
         for (String form : FORMS) {
             BlackRoad x = new BlackRoad();
             Check.same(form, Check.hours(x, form), 1);
@@ -247,7 +252,8 @@ final class TextEdges {
     /** What is ahead of the first world holds in all, what is behind one in it alone. */
     private static void hold() {
         BlackRoad x = new BlackRoad();
-        Check.same("twelve", Check.hours(x, "shut 0 7 to 7;rain 7 to 7;haul 0 7 from 7;world 0;shut 0 8 to 8;rain 8 to 8;haul 0 8 from 8;"
+        Check.same("twelve", Check.hours(x, "shut 0 7 to 7;rain 7 to 7;haul 0 7 from 7;world 0;shut 0 8 to 8;rain 8 to "
+                + "8;haul 0 8 from 8;"
                 + "world 1;shut 0 9 to 9;rain 9 to 9;haul 0 9 from 9;world 2;"), 12);
         for (int world = 0; world < 3; world++) {
             for (int minute = 6; minute <= 10; minute++) {
@@ -308,7 +314,8 @@ final class TextEdges {
     }
 
     private static void firstFault() {
-        Check.sentence("Terms II", "FAULTS, the first as TOKENS are come to, at the TOKEN's first byte (of the end at the length), of one the least:");
+        Check.sentence("Terms II", "FAULTS, the first as TOKENS are come to, at the TOKEN's first byte (of the end at "
+                + "the length), of one the least:");
         BlackRoad x = new BlackRoad();
         Check.badHours(x, "rain 4320 to ?", 2, 5);
         Check.badHours(x, "rain 0 ? 4320;", 1, 7);
@@ -355,7 +362,8 @@ final class TextEdges {
     }
 
     private static void rateEmpty() {
-        Check.sentence("Promise 17", "The tape (empty then) becomes THE RATE: true. False: it has a FAULT, the former one stays;");
+        Check.sentence("Promise 17", "The tape (empty then) becomes THE RATE: true. False: it has a FAULT, the former "
+                + "one stays;");
         BlackRoad x = new BlackRoad();
         Check.no("no bytes", x.rate());
         Check.same("1", x.fault(0), 1);
@@ -371,7 +379,8 @@ final class TextEdges {
     }
 
     private static void rateKept() {
-        Check.sentence("Promise 17", "The tape (empty then) becomes THE RATE: true. False: it has a FAULT, the former one stays;");
+        Check.sentence("Promise 17", "The tape (empty then) becomes THE RATE: true. False: it has a FAULT, the former "
+                + "one stays;");
         BlackRoad x = Scene.busy();
         String before = Scene.kept(x);
         Check.badRate(x, "m*m+m-", 1, 6);
@@ -384,11 +393,12 @@ final class TextEdges {
     }
 
     private static void rateBytes() {
-        Check.sentence("Terms V", "TOKENS, blanks (32, 10) aside: letters one behind the other (one TOKEN; t d j m are told, min, max), "
+        Check.sentence("Terms V", "TOKENS, blanks (32, 10) aside: letters one behind the other (one TOKEN; t d j m are "
+                + "told, min, max), "
                 + "NUMBERS (0 .. 9999), + - * / ( ) and the comma.");
         BlackRoad x = null;
         for (int b = 0; b < 256; b++) {
-            if (b % 25 == 0) x = new BlackRoad();
+            if (b % 10 == 0) x = new BlackRoad();
             char sign = (char) b;
             if (isBlank(b)) {
                 Check.tells(x, sign + "min" + sign + "(" + sign + "t" + sign + ",9" + sign + ")", 7);
@@ -416,20 +426,21 @@ final class TextEdges {
 
     /** A text cut off behind each of its TOKENS, and with another TOKEN in each place. */
     private static void rateTokens() {
-        Check.sentence("Terms V", "SUM: PRODUCT {+ or - PRODUCT}. PRODUCT: ONE {* or / ONE}. ONE: NUMBER, letter, ( SUM ), min ( SUM , SUM ), max likewise, - ONE.");
+        Check.sentence("Terms V", "SUM: PRODUCT {+ or - PRODUCT}. PRODUCT: ONE {* or / ONE}. ONE: NUMBER, letter, ( "
+                + "SUM ), min ( SUM , SUM ), max likewise, - ONE.");
         String form = "min ( t , max ( d , - ( j + m ) ) ) * 2 / 3";
         BlackRoad x = new BlackRoad();
         Check.tells(x, form, 4);
         String[] tokens = form.split(" ");
+        // what may stand in its place: a ONE, a ( alone, a sign behind a ONE, or that or the end
+        String places = "o(oso(osooosossseoeo";
         int place = 0;
-        boolean operand = true;
         for (int k = 0; k < tokens.length; k++) {
-            boolean mayEnd = k > 0 && (tokens[k].equals("*") || tokens[k].equals("/"));
-            if (!mayEnd) Check.badRate(x, form.substring(0, place), 1, place);
-            boolean word = tokens[k].startsWith("m") && tokens[k].length() == 3;
-            operand = word || "(-tdjm23".contains(tokens[k]) && !(tokens[k].equals("(") && tokens[k - 1].length() == 3);
-            String[] wrong = operand ? new String[] {"*", "/", "+", ")", ",", "x", "?"} : new String[] {"t", "5", "min", "x", "?"};
-            for (String other : wrong) Check.badRate(x, form.substring(0, place) + other, 1, place);
+            char may = places.charAt(k);
+            x = new BlackRoad();
+            if (may != 'e') Check.badRate(x, form.substring(0, place), 1, place);
+            String wrong = may == 'o' ? "* / + ) , x ?" : may == '(' ? "t 5 - ) x ?" : "t 5 min ( x ?";
+            for (String other : wrong.split(" ")) Check.badRate(x, form.substring(0, place) + other, 1, place);
             place += tokens[k].length() + 1;
         }
         Check.badRate(x, form + " )", 1, form.length() + 1);
@@ -490,7 +501,8 @@ final class TextEdges {
     }
 
     private static void faultOthers() {
-        Check.sentence("Promise 18", "Of the latest text that was read: 0 its FAULT (0 without), 1 its place (NONE without). NONE for others, and ahead of any.");
+        Check.sentence("Promise 18", "Of the latest text that was read: 0 its FAULT (0 without), 1 its place (NONE "
+                + "without). NONE for others, and ahead of any.");
         BlackRoad x = new BlackRoad();
         Check.same("ahead of any", x.fault(0), -1);
         Check.same("ahead of any", x.fault(1), -1);
@@ -508,7 +520,9 @@ final class TextEdges {
         Check.same("a sound one behind it", Check.hours(x, "world 0;"), 1);
         Check.same("0 again", x.fault(0), 0);
         Check.badRate(x, "(", 1, 1);
-        for (int bad : new int[] {-1, 2, 3, Integer.MIN_VALUE, Integer.MAX_VALUE}) Check.same("fault " + bad, x.fault(bad), -1);
+        for (int bad : new int[] {-1, 2, 3, Integer.MIN_VALUE, Integer.MAX_VALUE}) {
+            Check.same("fault " + bad, x.fault(bad), -1);
+        }
         Check.same("as before", x.fault(1), 1);
     }
 }
