@@ -526,10 +526,7 @@ final class RunEdges {
     private static void done() {
         Check.sentence("Terms III", "A RUN is DONE in the MINUTE in which the last tonne is laid (END); it isn't, if "
                 + "that doesn't come by 4319, or a KIND has no PLANT.");
-        BlackRoad x = Scene.small(1, 10, 1);
-        Check.hours(x, "haul 0 1 from 0; open 4319 to 4319;");
-        x.heat(160, 20, 0, 80, 70);
-        x.trucks(2, 5);
+        BlackRoad x = Scene.small(1, 10, 2);
         Check.hours(x, "haul 0 1 from 0; shut 0 0 to 4310; open 4319 to 4319;");
         Check.same("at 4319", x.run(0, 4, 1), 4319);
         Check.same("a tonne is left", x.run(0, 3, 1), -1);
@@ -626,7 +623,7 @@ final class RunEdges {
 
     private static void paceRanks() {
         Check.sentence("Promise 21", "then the earliest END of the latest WORLD, then the lowest.");
-        // 17 tonnes stand there at 50 in fours LOADS: no STOPS by any, 50 by 17 and more
+        // 17 tonnes stand there at 50 in four LOADS: no STOPS by any, 50 by 17 and more
         BlackRoad x = Scene.small(1, 50, 4);
         Check.hours(x, "haul 0 1 from 0; open 50 to 4319;");
         Check.same("17, of 17 to 20 the lowest", x.pace(), 17);
