@@ -682,8 +682,7 @@ final class RunEdges {
         for (int what = 0; what < 9; what++) Check.same("as run()", x.load(0, 4, 1, what), -1);
     }
 
-    /** In a RUN that is DONE each LOAD was begun and taken: all that was ordered is laid or REFUSED,
-            so that NONE is never due. */
+    /** In a RUN that is DONE each LOAD was begun and taken, for all of it is laid or REFUSED: NONE is never due. */
     private static void loadsAreTaken() {
         Check.sentence("Promise 23", "5 in which the PLANT began to fill it (NONE: it never did), 6 in which the paver "
                 + "took it (NONE), 7 its HEAT then (NONE), 8 REFUSED (1, 0).");
