@@ -10,9 +10,8 @@ import java.util.regex.Matcher;
 import java.util.regex.Pattern;
 
 /**
- * Looks whether the sentences that tests are named by stand in the document,
-         and whether each of its sentences has a test:
- * one that was run under its name, or one in PromiseTest with a comment that has its heading and its words.
+ * Looks whether the sentences that tests are named by stand in the document, and whether each of its sentences has
+ * a test: one that was run under its name, or one in PromiseTest with a comment that has its heading and its words.
  */
 final class Sentences {
     private static final Path DOCUMENT = Path.of("../shared/DOC.md");
