@@ -298,6 +298,31 @@ final class CoolEdges {
         x.roller(0, 10);
         Check.same("two do no more", x.laid(0, 20, 0, 7), laidAt + 1 + 12);
         Check.same("and not more than all", x.laid(0, 20, 0, 4), 0);
+        passesThere();
+    }
+
+    /** Two JOBS are laid at 9; one of them alone has its PASS of SORT 0: those on the other don't count. */
+    private static void passesThere() {
+        BlackRoad x = Scene.small(2, 10, 2);
+        Check.hours(x, "haul 0 1 from 0; open 9 to 9;");
+        x.heat(160, 1, 0, 80, 70);
+        x.sort(1, 200, 0, 1);
+        x.sort(2, 200, 0, 1);
+        for (int sort = 0; sort < 3; sort++) x.roller(sort, 10);
+        int[] mean = {x.mean(0, 20, 0, 1), x.mean(0, 20, 1, 1)};
+        Check.yes("JOB 1 is hotter, its LOAD was begun later", mean[0] < mean[1]);
+        Check.yes("JOB 1 is colder than JOB 0 was, a MINUTE later", x.mean(0, 20, 1, 2) < mean[0]);
+        for (int j = 0; j < 2; j++) {
+            x.sort(0, mean[j], mean[j], 1);
+            Check.same("SORT 0 on JOB " + j, x.laid(0, 20, j, 4), 0);
+            Check.same("so SORT 1 behind it", x.laid(0, 20, j, 5), 0);
+            Check.same("and SORT 2 behind both", x.laid(0, 20, j, 6), 0);
+            Check.same("at 10, 11 and 12", x.laid(0, 20, j, 7), 13);
+            Check.same("SORT 0 not on the other", x.laid(0, 20, 1 - j, 4), 1);
+            Check.same("so SORT 1 isn't, either", x.laid(0, 20, 1 - j, 5), 1);
+            Check.same("nor SORT 2", x.laid(0, 20, 1 - j, 6), 1);
+            Check.same("no PASS there", x.laid(0, 20, 1 - j, 7), -1);
+        }
     }
 
     private static void likeJobs() {
