@@ -32,6 +32,7 @@ final class AskedAgain {
         afterQuestions(Scene::busy, "busy");
         afterQuestions(AskedAgain::brisk, "brisk");
         setBack();
+        untilTheLastCall();
     }
 
     /** One of which fewest() answers with a number of trucks, and pace() with another one than the busy one's. */
@@ -191,6 +192,18 @@ final class AskedAgain {
             Check.no(call + " is seen", Scene.kept(x).equals(before));
             former.accept(x);
             Check.sameText(call + " is set back", Scene.kept(x), before);
+        }
+    }
+
+    /** The busy one was made and set by 24 calls; the 512th is answered as the first one. */
+    private static void untilTheLastCall() {
+        Check.sentence("What it is", "An object is used for at most 512 calls after it has been made; what later calls "
+                + "answer is free.");
+        BlackRoad x = Scene.busy();
+        for (int call = 25; call <= 512; call++) {
+            Question question = QUESTIONS.get(call % QUESTIONS.size());
+            long due = question.of.applyAsLong(Scene.busy());
+            Check.same(question.call + " as call " + call, question.of.applyAsLong(x), due);
         }
     }
 }

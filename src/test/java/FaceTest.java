@@ -1,11 +1,17 @@
+import java.io.IOException;
 import java.lang.reflect.Constructor;
 import java.lang.reflect.Field;
 import java.lang.reflect.Method;
 import java.lang.reflect.Modifier;
+import java.nio.charset.StandardCharsets;
+import java.nio.file.Files;
+import java.nio.file.Path;
 import java.util.ArrayList;
 import java.util.Arrays;
 import java.util.List;
 import java.util.TreeSet;
+import java.util.regex.Matcher;
+import java.util.regex.Pattern;
 
 /** The face is the document's to the letter, and no other member can be seen (LANGUAGE.md, 1, 2, 5 and 11). */
 public final class FaceTest {
@@ -22,7 +28,8 @@ public final class FaceTest {
     private FaceTest() {
     }
 
-    public static void main(String[] args) {
+    public static void main(String[] args) throws IOException {
+        asTheDocumentHasIt();
         TreeSet<String> names = new TreeSet<>();
         TreeSet<String> seen = new TreeSet<>();
         for (Method method : BlackRoad.class.getDeclaredMethods()) {
@@ -60,6 +67,35 @@ public final class FaceTest {
             lookInto(one);
         }
         Check.end("FaceTest");
+    }
+
+    private static String read(String path) throws IOException {
+        return new String(Files.readAllBytes(Path.of(path)), StandardCharsets.ISO_8859_1);
+    }
+
+    /** Each line of the document's code block stands in the program, with its arguments' names, and so each promise's. */
+    private static void asTheDocumentHasIt() throws IOException {
+        String document = "../shared/DOC.md";
+        if (!Files.exists(Path.of(document))) {
+            System.out.println("no " + document + ": its code block isn't looked at");
+            return;
+        }
+        String text = read(document);
+        Matcher block = Pattern.compile("(?s)```java\\n(.*?)```").matcher(text);
+        Check.yes("the document has a code block", block.find());
+        String program = read("src/main/java/BlackRoad.java");
+        TreeSet<String> calls = new TreeSet<>();
+        for (String line : block.group(1).split("\n")) {
+            if (line.isBlank() || line.equals("}")) continue;
+            String begins = line.replaceAll("\\);$", ") {");
+            Check.yes("the program has: " + line, program.contains("\n" + begins + "\n"));
+            if (begins.endsWith(") {")) calls.add(line.replaceAll("^ +public |;$", ""));
+        }
+        Matcher promise = Pattern.compile("(?m)^## Promise \\d+: (.*)\\n\\n`([^`]*)`").matcher(text);
+        TreeSet<String> promised = new TreeSet<>();
+        while (promise.find()) promised.add(promise.group(2));
+        Check.same("lines that are calls", calls.size(), FACE.length + 1);
+        Check.yes("each call has a promise " + promised, promised.equals(calls));
     }
 
     private static void lookInto(Class<?> one) {

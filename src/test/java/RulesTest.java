@@ -43,6 +43,7 @@ public final class RulesTest {
         }
         shortMethods(text.split("\n"));
         indexesOnlyBehindATest(bare);
+        ProgramTree.check("src/main/java/BlackRoad.java");
         Check.end("RulesTest");
     }
 

@@ -11,11 +11,14 @@ import java.util.regex.Pattern;
 
 /**
  * Looks whether the sentences that tests are named by stand in the document, and whether each of its sentences has
- * a test: one that was run under its name, or one in PromiseTest with a comment that has its heading and its words.
+ * a test: one that was run under its name, or one in PromiseTest or ReadmeTest with a comment that has its heading and
+ * its words. FaceTest is for the code block, and what is not promised has no test.
  */
 final class Sentences {
     private static final Path DOCUMENT = Path.of("../shared/DOC.md");
-    private static final Path BESIDE = Path.of("src/test/java/PromiseTest.java");
+    private static final String[] BESIDE = {"src/test/java/PromiseTest.java", "src/test/java/ReadmeTest.java"};
+    private static final Pattern NAMED =
+            Pattern.compile("// (What it is|Terms [IV]+|Promise \\d+|The constants), \"(.*)\"");
     private static final String[] PARTS = {"Terms I", "Terms II", "Terms III", "Terms IV", "Terms V"};
 
     private Sentences() {
@@ -33,7 +36,7 @@ final class Sentences {
         names.addAll(comments());
         for (String[] name : names) mark(name[0], plain(name[1]), document, tested);
         document.forEach((heading, text) -> untested(heading, text, tested.get(heading)));
-        Check.same("headings", document.size(), 1 + PARTS.length + 30);
+        Check.same("headings", document.size(), 2 + PARTS.length + 30);
     }
 
     private static String read(Path path) throws IOException {
@@ -45,8 +48,15 @@ final class Sentences {
         return text.replace("```text", " ").replace("```", " ").replaceAll("\\s+", " ").trim();
     }
 
+    private static String between(String text, String from, String to) {
+        int place = text.indexOf(from) + from.length();
+        return text.substring(place, Math.max(place, text.indexOf(to)));
+    }
+
     private static Map<String, String> parts(String document) {
         Map<String, String> parts = new TreeMap<>();
+        String ahead = between(document, "## What it is", "## The public face");
+        parts.put("What it is", plain(ahead.replace("==== I.", " ")));
         int terms = document.indexOf("## Terms") + "## Terms".length();
         int constants = document.indexOf("The constants: ");
         String[] told = document.substring(terms, constants).split("==== [IV]+\\.");
@@ -57,12 +67,14 @@ final class Sentences {
         return parts;
     }
 
-    /** The tests in PromiseTest say beside them which sentences they are for. */
+    /** The tests in PromiseTest and ReadmeTest say beside them which sentences they are for. */
     private static List<String[]> comments() throws IOException {
         List<String[]> names = new ArrayList<>();
-        String text = read(BESIDE).replaceAll("\\n\\s*// \\.\\. ", " ");
-        Matcher name = Pattern.compile("// (Terms [IV]+|Promise \\d+|The constants), \"(.*)\"").matcher(text);
-        while (name.find()) names.add(new String[] {name.group(1), name.group(2)});
+        for (String beside : BESIDE) {
+            String text = read(Path.of(beside)).replaceAll("\\n\\s*// \\.\\. ", " ");
+            Matcher name = NAMED.matcher(text);
+            while (name.find()) names.add(new String[] {name.group(1), name.group(2)});
+        }
         return names;
     }
 
